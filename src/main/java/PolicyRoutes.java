@@ -744,19 +744,23 @@ public final class PolicyRoutes {
 
         /** Whether e lets a way of its own, with that second domain, go to d; 0 alone has no second one. */
         boolean lets(int e, int second, int d) {
-            return second == NO_NEXT || (mannerOf(e) & SENDS) == 0
-                    || sortOf(e, d) == CUSTOMER || sortOf(e, second) == CUSTOMER;
+            int sorts = SORT + e * MOST;
+            return second == NO_NEXT || (cells[MANNER + e] & SENDS) == 0
+                    || cells[sorts + d] == CUSTOMER || cells[sorts + second] == CUSTOMER;
         }
 
         /** Whether d takes a way of e that has these members and that second domain. */
         boolean takes(int d, int e, int members, int second) {
-            return areJoined(d, e) && (members & (1 << d | barsOf(d))) == 0 && lets(e, second, d);
+            int pair = d * MOST + e;
+            return cells[SORT + pair] != 0 && cells[CUT + pair] == 0
+                    && (members & (1 << d | cells[BARS + d])) == 0 && lets(e, second, d);
         }
 
         /** A number that is less for a better way of d by e; the way is its rest by a million. */
         int rankOf(int d, int e, int length, int number) {
-            int kind = (mannerOf(d) & PICKS) == 0 ? 0 : sortOf(d, e);
-            return ((kind * 10 + 9 - likingOf(d, e)) * 8 + length) * MILLION + number;
+            int pair = d * MOST + e;
+            int kind = (cells[MANNER + d] & PICKS) == 0 ? 0 : cells[SORT + pair];
+            return ((kind * 10 + 9 - cells[LIKE + pair]) * 8 + length) * MILLION + number;
         }
     }
 
@@ -902,14 +906,10 @@ public final class PolicyRoutes {
             return number + way[e];
         }
 
-        boolean isContent(World world, int d) {
-            return way[d] == best(world, d);
-        }
-
         int discontents(World world) {
             int set = 0;
             for (int d = 1; d < world.size(); d++) {
-                if (!isContent(world, d)) {
+                if (way[d] != best(world, d)) {
                     set |= 1 << d;
                 }
             }
@@ -1061,7 +1061,7 @@ public final class PolicyRoutes {
             all = 0;
             Arrays.fill(owned, 0);
             add(0, -1, 0);
-            for (int w = 0; w < all; w++) {
+            for (int w = 0; w < all && w < MOST_WAYS; w++) {
                 extend(world, w);
             }
             notePlaces();
@@ -1386,7 +1386,7 @@ public final class PolicyRoutes {
             choice.follow(nextOf, world.size());
             int number = 0;
             for (int d = 1; d < world.size(); d++) {
-                if (!choice.isContent(world, d)) {
+                if (choice.wayOf(d) != choice.best(world, d)) {
                     return;
                 }
                 number = number * 10 + nextOf[d];
