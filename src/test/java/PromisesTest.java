@@ -62,6 +62,42 @@ public final class PromisesTest {
     return x;
   }
 
+  /** Six domains by a row of numbers: manners, bars, links of 1, 2, .. with lesser ones, likings. */
+  private static PolicyRoutes by(int... row) {
+    PolicyRoutes x = new PolicyRoutes();
+    x.domains(6);
+    int k = 12;
+    for (int a = 0; a < 6; a++) {
+      x.manner(a, row[a]);
+      x.bar(a, row[6 + a]);
+      for (int b = 0; b < a; b++) x.link(a, b, row[k++]);
+      for (int b = 0; b < 6; b++) x.like(a, b, row[27 + a * 6 + b]);
+    }
+    return x;
+  }
+
+  /** Comes to rest behind 51 turns. */
+  private static PolicyRoutes slow() {
+    return by(0, 0, 1, 0, 1, 2, 0, 32, 0, 2, 8, 16, 2, 2, 1, 2, 1, 2, 3, 3, 1, 1, 3, 1, 1, 1, 2, 4, 7, 1, 9, 7, 6, 0, 4, 0,
+        5, 0, 0, 9, 9, 3, 6, 3, 4, 1, 1, 3, 5, 8, 4, 2, 9, 7, 6, 1, 7, 2, 9, 4, 9, 3, 7);
+  }
+
+  /** Goes on for 74 turns ahead of all being as it was, but goes round faster. */
+  private static PolicyRoutes slower() {
+    return by(2, 0, 1, 0, 1, 2, 2, 4, 8, 32, 0, 16, 1, 3, 3, 2, 3, 1, 0, 2, 2, 2, 3, 1, 0, 3, 3, 7, 1, 6, 5, 4, 3, 3, 4, 5,
+        2, 2, 9, 2, 9, 4, 0, 8, 1, 7, 6, 8, 2, 6, 9, 5, 9, 9, 6, 8, 8, 5, 6, 4, 7, 9, 7);
+  }
+
+  /** Goes round by 78 turns. */
+  private static PolicyRoutes slowest() {
+    return by(0, 0, 0, 2, 0, 0, 0, 8, 0, 4, 32, 16, 3, 1, 2, 1, 2, 3, 3, 3, 3, 2, 0, 3, 2, 3, 3, 2, 4, 1, 9, 1, 6, 4, 0, 0,
+        1, 9, 4, 1, 0, 4, 8, 0, 1, 3, 1, 4, 4, 8, 7, 5, 7, 9, 0, 1, 9, 7, 8, 3, 2, 0, 3);
+  }
+
+  private static void turns(PolicyRoutes x, int n) {
+    for (int k = 0; k < n; k++) x.turn();
+  }
+
   private static long[] chosen(PolicyRoutes x) {
     long[] all = new long[x.count(0)];
     for (int d = 0; d < all.length; d++) all[d] = x.own(d, 3);
@@ -310,6 +346,12 @@ public final class PromisesTest {
     PolicyRoutes z = disagree();
     due("17 forty turns", z.rest(), NONE);
     dues("17 an even number of them", chosen(z), 0, 120, 210);
+    PolicyRoutes s = slow();
+    turns(s, 10);
+    dues("17 41 would be needed", of(s.foreseen(0), s.rest(), s.foreseen(0), s.rest(), s.rest()), 41, NONE, 1, 1, 0);
+    s = slow();
+    turns(s, 11);
+    dues("17 40 are enough", of(s.foreseen(0), s.rest(), s.rest()), 40, 40, 0);
     z.undo();
     dues("17 undone at once", chosen(z), 0, NONE, NONE);
   }
@@ -330,7 +372,29 @@ public final class PromisesTest {
     dues("19 at rest", of(x.foreseen(0), x.foreseen(1), x.foreseen(2)), 0, 1, 0);
     PolicyRoutes y = with(6, "0<1,1>2,2>3,3>4,4>5");
     dues("19 rest behind five", of(y.foreseen(0), y.foreseen(1), y.foreseen(2)), 5, 1, 5);
+    sixtyTurns();
     dues("19 refused", of(y.foreseen(-1), y.foreseen(3), y.foreseen(LOW)), BAD, BAD, BAD);
+  }
+
+  private static void sixtyTurns() {
+    PolicyRoutes y = slowest();
+    turns(y, 5);
+    dues("19 more than 60 for ever", of(y.foreseen(0), y.foreseen(1), y.foreseen(2)), NONE, NONE, NONE);
+    PolicyRoutes x = slower();
+    java.util.List<String> seen = new java.util.ArrayList<>();
+    for (int k = 0; k < 100 && !seen.contains(java.util.Arrays.toString(chosen(x))); k++) {
+      seen.add(java.util.Arrays.toString(chosen(x)));
+      x.turn();
+    }
+    int j = seen.size(), i = seen.indexOf(java.util.Arrays.toString(chosen(x)));
+    due("19 the round begins late", j > 60 && i > j - 60 ? 1 : 0, 1);
+    x = slower();
+    for (int k = 0; k <= i; k++) {
+      boolean comes = j - k <= 60;
+      dues("19 behind " + k + " turns", of(x.foreseen(1), x.foreseen(2)), comes ? j - i : NONE, comes ? i - k : NONE);
+      due("19 rest behind " + k, x.foreseen(0), comes && j - i == 1 ? i - k : NONE);
+      x.turn();
+    }
   }
 
   private static void p20Stable() {
