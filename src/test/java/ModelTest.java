@@ -153,7 +153,7 @@ public final class ModelTest {
       call("sheet", k, k < 3 ? 0 : 3, 8 + below(17));
       for (int i = 0; i < 6; i++) call("item", k, k < 3 ? 0 : 3, i, item());
     }
-    while (calls < 400) step();
+    while (calls < 380) step();
     for (int d = 0; d < n; d++) for (int what = 0; what < 5; what++) call("own", d, what);
     for (int what = 0; what < 8; what++) call("count", what);
   }

@@ -1,109 +1,9 @@
+import java.util.ArrayList;
+import java.util.Arrays;
+import java.util.List;
+
 /** For each promise: ordinary inputs, the edges that the document names, wrong inputs. */
-public final class PromisesTest {
-  private static final int BAD = -1, NOT = -2, FULL = -3, NONE = -4, NULL = -11, CAST = -12, INDEX = -13, SIZE = -14;
-  private static final int LOW = Integer.MIN_VALUE, HIGH = Integer.MAX_VALUE;
-  private static int wrong = 0;
-  private static int asked = 0;
-
-  private static void due(String what, long got, long want) {
-    asked++;
-    if (got != want) {
-      wrong++;
-      System.out.println(what + " answered " + got + ", due is " + want);
-    }
-  }
-
-  /** Several answers in a row. */
-  private static void dues(String what, long[] got, long... want) {
-    due(what + " (how many)", got.length, want.length);
-    for (int k = 0; k < Math.min(got.length, want.length); k++) due(what + " (" + k + ")", got[k], want[k]);
-  }
-
-  private static long[] of(long... got) { return got; }
-
-  private static int read(PolicyRoutes x, String text) {
-    for (char c : text.toCharArray()) x.type(c);
-    return x.read();
-  }
-
-  private static PolicyRoutes with(int n, String text) {
-    PolicyRoutes x = new PolicyRoutes();
-    x.domains(n);
-    read(x, text);
-    return x;
-  }
-
-  /** All peers, none by sort: everything is let go and only likings rank. */
-  private static PolicyRoutes lax(int n) {
-    PolicyRoutes x = new PolicyRoutes();
-    x.domains(n);
-    for (int a = 0; a < n; a++) {
-      x.manner(a, 0);
-      for (int b = 0; b < a; b++) x.link(a, b, 2);
-    }
-    return x;
-  }
-
-  /** Two domains that each would rather go by the other. */
-  private static PolicyRoutes disagree() {
-    PolicyRoutes x = lax(3);
-    x.like(1, 2, 1);
-    x.like(2, 1, 1);
-    return x;
-  }
-
-  /** Three that would each rather go by the next one, straight on, and by no other way: they never rest. */
-  private static PolicyRoutes restless() {
-    PolicyRoutes x = lax(4);
-    for (int d = 1; d <= 3; d++) {
-      x.like(d, d % 3 + 1, 5);
-      x.bar(d, 1 << (d + 1) % 3 + 1);
-    }
-    return x;
-  }
-
-  /** Six domains by a row of numbers: manners, bars, links of 1, 2, .. with lesser ones, likings. */
-  private static PolicyRoutes by(int... row) {
-    PolicyRoutes x = new PolicyRoutes();
-    x.domains(6);
-    int k = 12;
-    for (int a = 0; a < 6; a++) {
-      x.manner(a, row[a]);
-      x.bar(a, row[6 + a]);
-      for (int b = 0; b < a; b++) x.link(a, b, row[k++]);
-      for (int b = 0; b < 6; b++) x.like(a, b, row[27 + a * 6 + b]);
-    }
-    return x;
-  }
-
-  /** Comes to rest behind 51 turns. */
-  private static PolicyRoutes slow() {
-    return by(0, 0, 1, 0, 1, 2, 0, 32, 0, 2, 8, 16, 2, 2, 1, 2, 1, 2, 3, 3, 1, 1, 3, 1, 1, 1, 2, 4, 7, 1, 9, 7, 6, 0, 4, 0,
-        5, 0, 0, 9, 9, 3, 6, 3, 4, 1, 1, 3, 5, 8, 4, 2, 9, 7, 6, 1, 7, 2, 9, 4, 9, 3, 7);
-  }
-
-  /** Goes on for 74 turns ahead of all being as it was, but goes round faster. */
-  private static PolicyRoutes slower() {
-    return by(2, 0, 1, 0, 1, 2, 2, 4, 8, 32, 0, 16, 1, 3, 3, 2, 3, 1, 0, 2, 2, 2, 3, 1, 0, 3, 3, 7, 1, 6, 5, 4, 3, 3, 4, 5,
-        2, 2, 9, 2, 9, 4, 0, 8, 1, 7, 6, 8, 2, 6, 9, 5, 9, 9, 6, 8, 8, 5, 6, 4, 7, 9, 7);
-  }
-
-  /** Goes round by 78 turns. */
-  private static PolicyRoutes slowest() {
-    return by(0, 0, 0, 2, 0, 0, 0, 8, 0, 4, 32, 16, 3, 1, 2, 1, 2, 3, 3, 3, 3, 2, 0, 3, 2, 3, 3, 2, 4, 1, 9, 1, 6, 4, 0, 0,
-        1, 9, 4, 1, 0, 4, 8, 0, 1, 3, 1, 4, 4, 8, 7, 5, 7, 9, 0, 1, 9, 7, 8, 3, 2, 0, 3);
-  }
-
-  private static void turns(PolicyRoutes x, int n) {
-    for (int k = 0; k < n; k++) x.turn();
-  }
-
-  private static long[] chosen(PolicyRoutes x) {
-    long[] all = new long[x.count(0)];
-    for (int d = 0; d < all.length; d++) all[d] = x.own(d, 3);
-    return all;
-  }
-
+public final class PromisesTest extends Checks {
   private static void p01New() {
     PolicyRoutes x = new PolicyRoutes();
     dues("1 counts", of(x.count(0), x.count(1), x.count(2), x.count(3), x.count(4), x.count(5), x.count(6), x.count(7)),
@@ -380,21 +280,24 @@ public final class PromisesTest {
     PolicyRoutes y = slowest();
     turns(y, 5);
     dues("19 more than 60 for ever", of(y.foreseen(0), y.foreseen(1), y.foreseen(2)), NONE, NONE, NONE);
-    PolicyRoutes x = slower();
-    java.util.List<String> seen = new java.util.ArrayList<>();
-    for (int k = 0; k < 100 && !seen.contains(java.util.Arrays.toString(chosen(x))); k++) {
-      seen.add(java.util.Arrays.toString(chosen(x)));
-      x.turn();
-    }
-    int j = seen.size(), i = seen.indexOf(java.util.Arrays.toString(chosen(x)));
+    List<String> seen = new ArrayList<>();
+    while (seen.size() < 100 && !seen.contains(slowerBehind(seen.size()))) seen.add(slowerBehind(seen.size()));
+    int j = seen.size(), i = seen.indexOf(slowerBehind(j));
     due("19 the round begins late", j > 60 && i > j - 60 ? 1 : 0, 1);
-    x = slower();
+    PolicyRoutes x = slower();
     for (int k = 0; k <= i; k++) {
       boolean comes = j - k <= 60;
       dues("19 behind " + k + " turns", of(x.foreseen(1), x.foreseen(2)), comes ? j - i : NONE, comes ? i - k : NONE);
       due("19 rest behind " + k, x.foreseen(0), comes && j - i == 1 ? i - k : NONE);
       x.turn();
     }
+  }
+
+  /** What is chosen behind so many turns; each time of a new object, since one is good for 512 calls alone. */
+  private static String slowerBehind(int turns) {
+    PolicyRoutes x = slower();
+    turns(x, turns);
+    return Arrays.toString(chosen(x));
   }
 
   private static void p20Stable() {
@@ -556,11 +459,6 @@ public final class PromisesTest {
     dues("28 none", of(x.restore(), x.image(), x.restore(), x.restore()), NONE, 1, 1, 1);
   }
 
-  private static void fill(PolicyRoutes x, int sheet, int lane, long... items) {
-    x.sheet(sheet, lane, items.length);
-    for (int k = 0; k < items.length; k++) x.item(sheet, lane, k, items[k]);
-  }
-
   private static void p29Tried() {
     PolicyRoutes x = disagree();
     long[][] rows = {{2, 0}, {0, 1}, {0, 0}, {9, 9}, {2, 1}, {1, 0}, {9, 1}, {2, 9}, {0, 2}};
@@ -699,7 +597,6 @@ public final class PromisesTest {
     p33Item();
     p34Copy();
     constants();
-    System.out.println(asked + " answers, " + wrong + " not as due");
-    if (wrong != 0) System.exit(1);
+    end();
   }
 }
