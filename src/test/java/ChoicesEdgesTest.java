@@ -16,6 +16,13 @@ public final class ChoicesEdgesTest extends Checks {
     return x;
   }
 
+  /** Links of a text; none picks or sends by sort. */
+  private static PolicyRoutes freely(int n, String text) {
+    PolicyRoutes x = with(n, text);
+    for (int d = 0; d < n; d++) x.manner(d, 0);
+    return x;
+  }
+
   /** Comes to rest behind 60 turns. */
   private static PolicyRoutes slowToRest() {
     PolicyRoutes x = by(1, 1, 1, 2, 2, 0, 4, 16, 0, 32, 8, 2, 3, 2, 1, 1, 1, 1, 3, 2, 1, 2, 1, 2, 1, 1, 3, 1, 0, 5, 6, 1, 6, 4, 1, 2,
@@ -126,13 +133,10 @@ public final class ChoicesEdgesTest extends Checks {
     on(round(5), "20 the least number first", "stable(0,1) 10; stable(0,2) 230; stable(0,3) 30; stable(0,4) 410; stable(1,1) 120;"
         + "stable(1,2) 20; stable(1,3) 340; stable(1,4) 40; stable(1,0) 0");
     // 2 and 3 would each rather go by the other; 1 has a way only if 2 goes straight.
-    PolicyRoutes x = with(4, "0-2,0-3,2-3,1-2");
-    for (int d = 0; d < 4; d++) x.manner(d, 0);
-    on(x, "20 9 if none", "like(2,3,1) 0; like(3,2,1) 0; bar(1,8) 0; count(6) 2; stable(0,1) 120; stable(0,2) 20; stable(0,3) 320;"
+    on(freely(4, "0-2,0-3,2-3,1-2"), "20 9 if none", "like(2,3,1) 0; like(3,2,1) 0; bar(1,8) 0; count(6) 2; stable(0,1) 120; stable(0,2) 20; stable(0,3) 320;"
         + "stable(1,1) NONE; stable(1,2) 230; stable(1,3) 30");
     // Two pairs of that kind: 0103, 0140, 2003, 2040.
-    PolicyRoutes y = with(5, "0-1,0-2,0-3,0-4,1-2,3-4");
-    for (int d = 0; d < 5; d++) y.manner(d, 0);
+    PolicyRoutes y = freely(5, "0-1,0-2,0-3,0-4,1-2,3-4");
     on(y, "20 four of them", "like(1,2,1); like(2,1,1); like(3,4,1); like(4,3,1); count(6) 4; stable(0,2) 210; stable(0,4) 430;"
         + "stable(1,2) 210; stable(1,3) 340; stable(1,4) 40; stable(2,1) 120; stable(2,3) 30; stable(2,4) 430; stable(3,1) 120;"
         + "stable(3,3) 340; stable(4,0) NOT");
@@ -164,21 +168,20 @@ public final class ChoicesEdgesTest extends Checks {
     on(x, "21 u and P together is not PERMITTED to u", "like(2,3,0) 5; ring(0) 1; ring(1) 2; ring(2) 2; ring(3) 210; like(1,2,0) 5; ring(0) 0");
     for (int n = 2; n <= 6; n++) on(lax(n), "21 none, if the shorter one is better to all, of " + n, "ring(0) 0; ring(2) 0; ring(3) NONE");
     // 230 is better than 240, but 1230 better than 1240, too: 1240 is in no ring. 130, 31240; 130, 230, 1230 are rings.
-    PolicyRoutes w = with(5, "0-3,0-4,1-2,1-3,2-3,2-4");
-    for (int d = 0; d < 5; d++) w.manner(d, 0);
-    on(w, "21 u and P together is better than R", "like(3,1,2) 0; ring(0) 1; ring(1) 2; ring(2) 4; ring(3) 130; why(1240) 0");
+    on(freely(5, "0-3,0-4,1-2,1-3,2-3,2-4"), "21 u and P together is better than R", "like(3,1,2) 0; ring(0) 1; ring(1) 2; ring(2) 4; ring(3) 130; why(1240) 0");
     // Worked out apart by trying all out.
     on(lax(6), "21 of 326 WAYS", "like(1,2,5); like(2,3,5); like(3,4,5); like(4,5,5); like(5,1,5); ring(1) 2; ring(2) 204; ring(3) 120");
+    on(lax(6), "21 of 326 WAYS, others", "like(1,4,1); like(3,1,9); like(5,2,2); like(5,3,2); ring(1) 2; ring(2) 174; ring(3) 130");
     on(lax(6), "21 of two that disagree among six", "like(4,5,1); ring(2) 40; ring(3) 140; like(5,4,1); ring(1) 2; ring(2) 94; ring(3) 140;"
         + "bar(4,14); bar(5,14); ring(1) 2; ring(2) 2; ring(3) 450");
+    on(freely(6, "0-1,1-2,0-3,1-4,2-4,3-4,0-5,2-5,3-5,4-5"), "21 how many are in RINGS", "like(1,2,1) 0; ring(1) 2; ring(2) 21; ring(3) 210");
+    on(freely(6, "0-1,1-2,0-3,1-3,2-3,1-4,2-4,2-5,3-5,4-5"), "21 how many are in RINGS", "like(1,4,2) 0; ring(1) 2; ring(2) 19; ring(3) 210");
+    on(freely(5, "0-1,1-2,0-3,1-3,1-4,2-4,3-4"), "21 not those that lead from one RING to another alone", "like(1,4,1) 0; like(2,4,2) 0;"
+        + "ring(0) 1; ring(1) 2; ring(2) 4; ring(3) 410");
     // 3 and 4 as two that disagree, in a world of five: the least is not of 1.
-    PolicyRoutes y = with(5, "0-3,0-4,3-4,0-1");
-    for (int d = 0; d < 5; d++) y.manner(d, 0);
-    on(y, "21 the least of these as a number", "like(3,4,1); like(4,3,1); ring(1) 2; ring(2) 2; ring(3) 340");
+    on(freely(5, "0-3,0-4,3-4,0-1"), "21 the least of these as a number", "like(3,4,1); like(4,3,1); ring(1) 2; ring(2) 2; ring(3) 340");
     // A round of three beside two that disagree: the least length and the least number are of unlike rings.
-    PolicyRoutes z = with(6, "0-1,0-2,0-3,1-2,2-3,3-1,0-4,0-5,4-5");
-    for (int d = 0; d < 6; d++) z.manner(d, 0);
-    on(z, "21 the least length", "like(1,2,5); like(2,3,5); like(3,1,5); bar(1,8); bar(2,2); bar(3,4); ring(1) 3; ring(2) 3;"
+    on(freely(6, "0-1,0-2,0-3,1-2,2-3,3-1,0-4,0-5,4-5"), "21 the least length", "like(1,2,5); like(2,3,5); like(3,1,5); bar(1,8); bar(2,2); bar(3,4); ring(1) 3; ring(2) 3;"
         + "like(4,5,1); like(5,4,1); ring(1) 2; ring(2) 5; ring(3) 120");
   }
 

@@ -254,6 +254,8 @@ public final class DomainsEdgesTest extends Checks {
     on(with(4, "0-1,1>2"), "11 1: or it is CUT", "why(210) 0; cut(1,2) 1; why(210) 120; cut(0,1) 1; why(210) 111; cut(1,2) 0;"
         + "why(210) 111");
     on(lax(4), "11 1: none with itself", "why(110) 110; why(100) 101; why(1100) 102; why(2210) 120");
+    on(lax(6), "11 1: whatever is told of others", "bar(5,2) 0; like(5,4,9) 0; cut(0,1) 1; why(100) 101; why(550) 150; why(5500) 102;"
+        + "bar(0,62) 0; why(100) 101; why(500) 101");
     on(lax(4), "11 2: d stands behind itself, too", "why(1210) 210; why(1010) 201; why(2010) 201; why(3123210) BAD; why(312310) 211");
     on(lax(4), "11 3: d BARS one that is behind", "bar(3,2) 0; why(310) 330; why(3210) 330; why(320) 0; why(30) 0; why(2310) 331;"
         + "bar(3,1) 2; why(30) 330; why(310) 330");
