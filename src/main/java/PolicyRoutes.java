@@ -1270,6 +1270,10 @@ public final class PolicyRoutes {
 
         /** Puts all live ones to which w leads to the coming ones; whether there are any. */
         private boolean join(int w) {
+            // The words of a set have bits beyond the last way.
+            if (w < 0 || w >= Ways.MOST_WAYS) {
+                return false;
+            }
             long any = 0L;
             for (int k = 0; k < WORDS; k++) {
                 long to = leads[w * WORDS + k] & live[k];
@@ -1347,20 +1351,20 @@ public final class PolicyRoutes {
             }
             version = ofWays;
             found = 0;
-            search(world, choice, 1);
+            search(this, world, choice, 1);
         }
 
         /** Tries next domains of d in the order of their figures, then those of the domains behind it. */
-        private void search(World world, Choice choice, int d) {
+        private static void search(Rests rests, World world, Choice choice, int d) {
             if (d >= world.size() || d >= MOST) {
-                keepIfStable(world, choice);
+                rests.keepIfStable(world, choice);
                 return;
             }
             for (int e = 0; e <= NO_NEXT; e++) {
                 if (e == NO_NEXT || world.isDomain(e) && world.areJoined(d, e)) {
-                    nextOf[d] = e;
-                    if (mayLead(d)) {
-                        search(world, choice, d + 1);
+                    rests.nextOf[d] = e;
+                    if (rests.mayLead(d)) {
+                        search(rests, world, choice, d + 1);
                     }
                 }
             }

@@ -104,11 +104,27 @@ public final class LanguageTest {
     ask(!loops.find(), "9: an end of every loop");
   }
 
+  /** A method that calls itself is a private static one, and carries what ends it as an argument. */
+  private static void recursion(String source) {
+    String bare = bare(source);
+    Matcher heads = Pattern.compile("(?m)^( {4}| {8})((?:\\w+(?:\\[\\])? )+)(\\w+)\\(([^)]*)\\) \\{$").matcher(bare);
+    int found = 0;
+    while (heads.find()) {
+      int end = bare.indexOf("\n" + heads.group(1) + "}", heads.end());
+      boolean again = Pattern.compile("(?<![.\\w])" + heads.group(3) + "\\(").matcher(bare.substring(heads.end(), end)).find();
+      if (!again) continue;
+      found++;
+      ask(heads.group(2).startsWith("private static ") && heads.group(4).contains("int "), "8: " + heads.group(3));
+    }
+    ask(found > 0, "8: the methods that call themselves are found");
+  }
+
   public static void main(String[] args) throws Exception {
     String source = Files.readString(Path.of("src/main/java/PolicyRoutes.java"));
     face();
     words(source);
     lengths(source);
+    recursion(source);
     System.out.println("the language's rules, " + wrong + " not kept");
     if (wrong != 0) System.exit(1);
   }
